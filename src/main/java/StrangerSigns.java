@@ -633,13 +633,14 @@ public final class StrangerSigns {
         }
         // Walks are told from the image as it is, so what is drawn for them must not go on in it.
         int z = image.z;
+        enterBoth(image);
         int right = rightNumbers(n, many);
         image.z = z;
         return right == 2 * n && many == 2 * n ? 0 : 1 + right;
     }
 
     public int keep() {
-        image.becomeAs(house);
+        image.becomeLike(house);
         kept = true;
         return house.signCount;
     }
@@ -648,7 +649,7 @@ public final class StrangerSigns {
         if (!kept) {
             return NO;
         }
-        house.becomeAs(image);
+        house.becomeLike(image);
         changes.forget();
         return house.signCount;
     }
@@ -746,7 +747,6 @@ public final class StrangerSigns {
 
     /** How many of the numbers that waited stand right, up to the first that does not. */
     private int rightNumbers(int n, int many) {
-        enterBoth(image);
         int right = 0;
         for (int i = 0; i < n; i++) {
             Walker walker = walkStranger(image);
@@ -788,7 +788,7 @@ public final class StrangerSigns {
             Arrays.fill(counting, LACKING);
         }
 
-        void becomeAs(House model) {
+        void becomeLike(House model) {
             for (int i = 0; i < model.wayCount; i++) {
                 ways[i].becomeAs(model.ways[i]);
             }
@@ -867,24 +867,22 @@ public final class StrangerSigns {
             if (way.isShut || way.sort == STAIRS && wheels == 1) {
                 return false;
             }
-            return way.sort != GATE || isOpen(way);
-        }
-
-        private boolean isOpen(Way gate) {
+            if (way.sort != GATE) {
+                return true;
+            }
             Text text = textFor(GATE_KEY);
-            return text == null ? hour >= 6 && hour <= 21 : text.value(hour, day, gate.minutes, 0) != 0;
+            return text == null ? hour >= 6 && hour <= 21 : text.value(hour, day, way.minutes, 0) != 0;
         }
 
         boolean isLit(Sign sign) {
             if (sign.kind == HAND) {
                 return day < sign.until;
             }
-            return sign.kind != LIGHT || isLightOn(sign);
-        }
-
-        private boolean isLightOn(Sign light) {
+            if (sign.kind != LIGHT) {
+                return true;
+            }
             Text text = textFor(LIGHT_KEY);
-            return text == null ? hour >= 18 || hour < 6 : text.value(hour, day, light.rowCount, 0) != 0;
+            return text == null ? hour >= 18 || hour < 6 : text.value(hour, day, sign.rowCount, 0) != 0;
         }
 
         boolean isObeyed(Sign sign, int wheels) {
@@ -930,7 +928,7 @@ public final class StrangerSigns {
         final int[] names = new int[MOST_ROWS];
         final int[] arrows = new int[MOST_ROWS];
 
-        static int mostOf(int kind) {
+        private static int mostOf(int kind) {
             switch (kind) {
                 case OVER: return mostOf(SIGN) + 1;
                 case LIGHT: return mostOf(OVER) - 2;
@@ -941,7 +939,7 @@ public final class StrangerSigns {
             }
         }
 
-        static int seenOf(int kind) {
+        private static int seenOf(int kind) {
             switch (kind) {
                 case OVER: return seenOf(SIGN) + 2;
                 case LIGHT: return seenOf(OVER);
@@ -952,7 +950,7 @@ public final class StrangerSigns {
             }
         }
 
-        static int priceOf(int kind, int rows) {
+        private static int priceOf(int kind, int rows) {
             switch (kind) {
                 case OVER: return priceOf(SIGN, rows) + 5;
                 case LIGHT: return 2 * priceOf(OVER, rows);
@@ -1233,7 +1231,8 @@ public final class StrangerSigns {
             }
         }
 
-        void go(int place) {
+        /** Walks from a place to the goal: what becomes of it. */
+        int go(int place) {
             walkNumber++;
             minutes = 0;
             gone = 0;
@@ -1250,6 +1249,7 @@ public final class StrangerSigns {
                     take(came);
                 }
             }
+            return ending;
         }
 
         private void take(int direction) {
@@ -1306,16 +1306,11 @@ public final class StrangerSigns {
                 }
             }
             for (int place = 0; place < house.placeCount; place++) {
-                if (roads.heading(place, goal) != LACKING && !arrivesFrom(place)) {
+                if (roads.heading(place, goal) != LACKING && go(place) != ARRIVED) {
                     return false;
                 }
             }
             return true;
-        }
-
-        private boolean arrivesFrom(int place) {
-            go(place);
-            return ending == ARRIVED;
         }
     }
 
@@ -1462,11 +1457,11 @@ public final class StrangerSigns {
 
         private static int joined(int a, int sign, int b) {
             switch (sign) {
-                case '|': return bit(a != 0 || b != 0);
-                case '&': return bit(a != 0 && b != 0);
-                case '<': return bit(a < b);
-                case '=': return bit(a == b);
-                case '>': return bit(a > b);
+                case '|': return a != 0 || b != 0 ? 1 : 0;
+                case '&': return a != 0 && b != 0 ? 1 : 0;
+                case '<': return a < b ? 1 : 0;
+                case '=': return a == b ? 1 : 0;
+                case '>': return a > b ? 1 : 0;
                 case '+': return a + b;
                 case '-': return a - b;
                 case '*': return a * b;
@@ -1605,10 +1600,10 @@ public final class StrangerSigns {
             if (fault != LACKING) {
                 return;
             }
-            if (token == NUMBER && behind - start <= MOST_DIGITS) {
-                readLeaf(numberRead());
-            } else if (token == WORD && nameRead() != LACKING) {
-                readLeaf(-1 - nameRead());
+            if (token == NUMBER && behind - start <= MOST_DIGITS || token == WORD && nameRead() != LACKING) {
+                put(token == NUMBER ? numberRead() : -1 - nameRead());
+                leaves++;
+                look();
             } else if (token == '!' && negated < MOST_OPEN) {
                 negated++;
                 look();
@@ -1624,12 +1619,6 @@ public final class StrangerSigns {
             } else {
                 fault = start;
             }
-        }
-
-        private void readLeaf(int step) {
-            put(step);
-            leaves++;
-            look();
         }
 
         private void readClosing() {

@@ -10,6 +10,7 @@ public final class ImagesTest {
         checkFromImage();
         image();
         imageIsKept();
+        newBehindTheImage();
         counts();
         due.end();
     }
@@ -188,6 +189,30 @@ public final class ImagesTest {
         x.drop(0, 0);
         x.back();
         due.is("is the one", x.count(4), 3);
+    }
+
+    /** What comes where something else stood that went with the image is new. */
+    private static void newBehindTheImage() {
+        StrangerSigns x = Houses.corridor(3);
+        x.goal(2, 1);
+        x.keep();
+        x.way(0, 2, 1, 205);
+        x.shut(2, true);
+        x.sign(1, 0, 0);
+        x.row(0, 0, 3);
+        x.strangers(30);
+        due.holds("some went astray", x.told(0, 7) > 0);
+        x.back();
+        due.is("a sign", x.sign(0, 5, 3), 0);
+        due.is("it has no astray", x.told(0, 7), 0);
+        due.is("it has no rows", x.told(0, 2), 0);
+        due.is("until", x.told(0, 8), 3);
+        due.is("a way", x.way(2, 0, 6, 103), 2);
+        int[] told = {2, 0, 6, 1, 3, 0, 1, 0};
+        for (int what = 0; what < told.length; what++) {
+            due.is("the new way", x.wayTold(2, what), told[what]);
+        }
+        due.is("the old direction is free", x.way(0, 2, 1, 5), 3);
     }
 
     private static void counts() {

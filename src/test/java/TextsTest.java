@@ -73,6 +73,8 @@ public final class TextsTest {
         fault(x, "light5", 5);
         fault(x, "light light", 6);
         fault(x, "light hh", 6);
+        fault(x, "light hz", 6);
+        fault(x, "light ah", 6);
         fault(x, "light m", 6);
         fault(x, "light k", 6);
         fault(x, "gate r", 5);

@@ -159,17 +159,19 @@ final class EdgesOfCrowds {
         misled();
         e.is(0, "told", 0, 7);
         int astray = 0;
-        while (astray + 60 <= 9998) {
+        for (int i = 0; i < 240 && astray + 60 <= 9998; i++) {
             astray += 60 - e.call("strangers", 60);
         }
-        while (astray < 9998) {
+        for (int i = 0; i < 120 && astray < 9998; i++) {
             astray += 1 - e.call("strangers", 1);
         }
         e.is(9998, "told", 0, 7);
-        for (int more = 0; more < 3; ) {
+        int more = 0;
+        for (int i = 0; i < 20 && more < 3; i++) {
             more += 1 - e.call("strangers", 1);
             e.is(Math.min(9999, 9998 + more), "told", 0, 7);
         }
+        e.holds("three more are lost", more == 3);
         e.call("strangers", 60);
         e.is(9999, "told", 0, 7);
         e.is(0, "told", 1, 7);

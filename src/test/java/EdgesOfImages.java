@@ -18,6 +18,7 @@ final class EdgesOfImages {
         checkMissing();
         checkTooMany();
         checkFromTheImageOn();
+        checkByTheImage();
         keep();
         back();
         imageKeeps();
@@ -240,6 +241,47 @@ final class EdgesOfImages {
         e.is(0, "check", 6);
     }
 
+    /** Strangers of an image go by its own ways, hours, days, groups, kinds, rows and texts, whatever became of them since. */
+    private void checkByTheImage() {
+        e.terms(5, "of n STRANGERS drawn from THE IMAGE on");
+        for (int text = 0; text < 8; text++) {
+            e.fresh();
+            e.places(6);
+            e.call("way", 1, 0, 0, 105);
+            e.call("way", 2, 1, 0, 302);
+            e.call("way", 3, 2, 0, 203);
+            e.call("way", 4, 3, 0, 4);
+            e.call("way", 5, 3, 2, 307);
+            e.call("goal", 0, 2);
+            e.call("goal", 5, -1);
+            e.call("goal", 4, 1);
+            for (int place = 1; place < 4; place++) {
+                int sign = e.call("sign", place, place == 1 ? 5 : place == 2 ? 3 : 1, 3);
+                e.call("row", sign, place == 1 ? 12 : place == 2 ? 0 : 11, place == 3 ? 4 : 0);
+                e.call("row", sign, 10, 4);
+                e.call("row", sign, 12, 0);
+            }
+            e.call("hours", 34);
+            e.text(0, text % 2 == 0 ? "gate h>9" : "gate 0");
+            e.text(1, text / 2 % 2 == 0 ? "light d=1" : "light 0");
+            e.text(2, text / 4 == 0 ? "obey s+w" : "obey k=5");
+            int[] told = walksTold(30);
+            e.call("keep");
+            e.text(3, "gate h<9");
+            e.text(4, "light d>1");
+            e.text(5, "obey 0");
+            e.call("hours", 48);
+            e.call("turns", 1, 0);
+            e.call("drop", 0, 0);
+            tellFirst(told, 60);
+            e.is(0, "check", 30);
+            e.call("back");
+            e.is(1, "count", 11);
+            int[] again = walksTold(30);
+            e.holds("walks are as they were", java.util.Arrays.equals(told, again));
+        }
+    }
+
     private void keep() {
         e.promise(48, "AN IMAGE is kept: the number of SIGNS.");
         e.is(0, "keep");
@@ -279,6 +321,7 @@ final class EdgesOfImages {
         e.call("keep");
         e.call("place");
         e.call("way", 5, 1, 3, 205);
+        e.call("shut", 6, true);
         e.call("shut", 0, true);
         e.call("goal", 5, 3);
         e.call("sign", 5, 5, 40);

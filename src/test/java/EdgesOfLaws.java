@@ -31,6 +31,7 @@ final class EdgesOfLaws {
         clear();
         fewest();
         fewestOfSix();
+        fullHouse();
         fewestOfSeveral();
         fewestIsObeyed();
     }
@@ -185,6 +186,15 @@ final class EdgesOfLaws {
         e.is(0, "breaches", 4);
         e.call("way", 0, 1, 2, 1);
         e.is(1, "breaches", 4);
+        e.fresh();
+        e.corridor(12);
+        for (int place = 0; place < 11; place++) {
+            row(place, SIGN, place % 10, 0);
+        }
+        row(11, SIGN, 1, 4);
+        e.is(0, "breaches", 4);
+        e.call("way", 11, 10, 1, 1);
+        e.is(2, "breaches", 4);
     }
 
     /** A sign at place 1 leads to the middle of the star. */
@@ -220,6 +230,12 @@ final class EdgesOfLaws {
         e.is(1, "breaches", 4);
         e.call("goal", 0, 3);
         e.is(0, "breaches", 4);
+        for (int name : new int[] {0, 13}) {
+            e.fresh();
+            toTheMiddle(name);
+            e.call("goal", 0, 3);
+            e.is(0, "breaches", 4);
+        }
     }
 
     private void rowsThere() {
@@ -546,6 +562,37 @@ final class EdgesOfLaws {
         e.is(63, "fewest", 0, 0);
         e.is(31, "fewest", 0, 1);
         e.refused(FULL, "choose", 6);
+    }
+
+    /** As many places, ways, goals and told places as can be, and what was told ahead of an image that has fewer. */
+    private void fullHouse() {
+        e.terms(4, "NEEDS of a PLACE (for WHEELS): of all GOALS that have a NEXT there");
+        e.places(12);
+        e.call("keep");
+        for (int again = 0; again < 2; again++) {
+            for (int i = 0; i < 11; i++) {
+                e.call("way", i, i + 1, 0, 30);
+            }
+            for (int i = 0; i < 9; i++) {
+                e.call("way", i, i + 1, 2, 30);
+            }
+            for (int i = 0; i < 10; i++) {
+                e.call("goal", 11, i == 9 ? -1 : 3);
+            }
+            for (int i = 0; i < 6; i++) {
+                e.call("choose", i);
+            }
+            e.is(2, "needs", 0, 0);
+            e.is(0, "needs", 11, 0);
+            e.is(NONE, "fewest", 9, 0);
+            e.is(0, "back");
+            e.is(0, "needs", 0, 0);
+            e.is(BAD, "fewest", 0, 0);
+            e.call("goal", 11, -1);
+            e.is(0, "needs", 0, 0);
+            e.is(0, "fewest", 0, 0);
+            e.call("back");
+        }
     }
 
     private void fewestOfSeveral() {

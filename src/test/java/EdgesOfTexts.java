@@ -196,6 +196,11 @@ final class EdgesOfTexts {
         e.text(0, "light 1");
         e.text(1, "gate 1");
         e.text(2, "obey 1");
+        for (String key : new String[] {"light", "gate", "obey"}) {
+            for (int i = 0; i < key.length(); i++) {
+                e.fault(0, key.substring(0, i) + "x" + key.substring(i + 1) + " 1");
+            }
+        }
         e.fault(0, "ligh 1");
         e.fault(0, "lights 1");
         e.fault(0, "gat 1");
@@ -268,6 +273,10 @@ final class EdgesOfTexts {
         e.fault(5, "gate dh");
         e.fault(6, "gate (zz)");
         e.fault(5, "gate aa");
+        e.fault(5, "gate hz");
+        e.fault(5, "gate ha");
+        e.fault(0, "gatez 1");
+        e.fault(0, "gatea 1");
         e.fault(6, "gate h" + (char) ('a' - 1));
         e.fault(6, "gate h" + (char) ('z' + 1));
         e.fault(7, "gate 1" + (char) ('0' - 1));

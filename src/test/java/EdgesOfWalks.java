@@ -200,6 +200,11 @@ final class EdgesOfWalks {
         walked(0, 0, LOST, 4, 4, 1, 1);
         row(0, SIGN, 11, 4);
         walked(0, 2, ARRIVED, 3, 3, 1, 2);
+        for (int name : new int[] {0, 2, 3, 9, 10, 13}) {
+            e.call("drop", 2, 0);
+            e.call("row", 2, name, 2);
+            walked(0, 1, LOST, 0, 0, 0, NONE);
+        }
     }
 
     private void firstRow() {
@@ -399,17 +404,22 @@ final class EdgesOfWalks {
         e.is(NONE, "far", 3, 0, 0);
     }
 
+    /** Eleven ways in a row, told from either end, and from their one place or their other one. */
     private void longestFar() {
         e.terms(4, "FAR: the least MINUTES from a PLACE to a GOAL");
-        e.places(12);
-        for (int i = 11; i > 0; i--) {
-            e.call("way", i, i - 1, i % 2, 30);
-        }
-        e.call("goal", 11, -1);
-        e.call("goal", 0, -1);
-        for (int place = 0; place < 12; place++) {
-            e.is(30 * (11 - place), "far", place, 0, 0);
-            e.is(30 * place, "far", place, 1, 1);
+        for (int told = 0; told < 4; told++) {
+            e.fresh();
+            e.places(12);
+            for (int i = 1; i < 12; i++) {
+                int end = told % 2 == 0 ? i : 12 - i;
+                e.call("way", told < 2 ? end : end - 1, told < 2 ? end - 1 : end, end % 2, 30);
+            }
+            e.call("goal", 11, -1);
+            e.call("goal", 0, -1);
+            for (int place = 0; place < 12; place++) {
+                e.is(30 * (11 - place), "far", place, 0, 0);
+                e.is(30 * place, "far", place, 1, 1);
+            }
         }
     }
 

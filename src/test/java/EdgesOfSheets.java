@@ -22,6 +22,7 @@ final class EdgesOfSheets {
         copyRefused();
         copyIndex();
         copyKind();
+        copyFromTo();
         copyOnItself();
         layRefused();
         layThings();
@@ -273,6 +274,18 @@ final class EdgesOfSheets {
         e.refused(KIND, "copy", 1, 0, 2, 0, 1);
         e.is(1, "copy", 1, 0, 0, 1, 1);
         holds(0, 1, 0);
+    }
+
+    private void copyFromTo() {
+        e.promise(41, "(From a SHEET, its place, to a SHEET, its place.)");
+        marked(0, BYTES, 1, 2, 3);
+        marked(3, BYTES, 7, 8, 9, 10);
+        e.is(2, "copy", 0, 1, 3, 2, 2);
+        holds(0, 1, 2, 3);
+        holds(3, 7, 8, 2, 3);
+        e.is(1, "copy", 3, 0, 0, 2, 1);
+        holds(0, 1, 2, 7);
+        holds(3, 7, 8, 2, 3);
     }
 
     private void copyOnItself() {

@@ -19,6 +19,7 @@ final class EdgesOfSigns {
         mostRows();
         seen();
         prices();
+        kindsNotNamed();
         litAtHours();
         litByTexts();
         litHands();
@@ -198,6 +199,32 @@ final class EdgesOfSigns {
         for (int kind = 0; kind < HAND; kind++) {
             e.call("turns", 0, kind);
             e.is(none[kind] + 6 * each[kind], "told", 0, 5);
+        }
+    }
+
+    private void kindsNotNamed() {
+        e.terms(2, "(A KIND that is not named does as the one above it.)");
+        e.places(1);
+        for (int kind = 0; kind < 6; kind++) {
+            e.call("sign", 0, kind, 1);
+        }
+        e.is(5, "told", OVER, 4);
+        e.is(5, "told", LIGHT, 4);
+        e.is(1, "told", DOOR, 4);
+        e.is(1, "told", MAP, 4);
+        e.terms(2, "LIT: SIGN: yes.");
+        e.places(1);
+        for (int kind = 0; kind < 6; kind++) {
+            e.call("sign", 0, kind, 1);
+        }
+        int[] lit = {1, 1, 1, 0, 1, 1};
+        for (int kind = 0; kind < 6; kind++) {
+            e.is(lit[kind], "told", kind, 6);
+        }
+        e.call("hours", 24);
+        lit[HAND] = 0;
+        for (int kind = 0; kind < 6; kind++) {
+            e.is(lit[kind], "told", kind, 6);
         }
     }
 

@@ -19,6 +19,7 @@ final class EdgesOfTexts {
         why();
         longestTexts();
         keys();
+        pieces();
         digits();
         names();
         blanks();
@@ -217,6 +218,25 @@ final class EdgesOfTexts {
         e.fault(6, "light obey");
     }
 
+    private void pieces() {
+        e.terms(3, "PIECE: NUMBER (1 to 4 digits) | NAME | ! PIECE | ( E ).");
+        e.text(0, "gate 7");
+        e.text(1, "gate d");
+        e.text(2, "gate !7");
+        e.text(3, "gate !d");
+        e.text(4, "gate !!d");
+        e.text(5, "gate (d)");
+        e.text(6, "gate !(d)");
+        e.text(7, "gate (!d)");
+        e.text(8, "gate (1|d)");
+        for (String sign : new String[] {"|", "&", "<", "=", ">", "+", "-", "*", "/", ")"}) {
+            e.fault(5, "gate " + sign);
+            e.fault(6, "gate !" + sign);
+            e.fault(6, "gate (" + sign);
+            e.fault(7, "gate h*" + sign);
+        }
+    }
+
     private void digits() {
         e.terms(3, "PIECE: NUMBER (1 to 4 digits)");
         e.text(0, "gate 0");
@@ -404,6 +424,10 @@ final class EdgesOfTexts {
         e.fault(8, "gate (h)(d)");
         e.fault(6, "gate h!");
         e.fault(6, "gate ()");
+        e.fault(7, "gate (())");
+        e.fault(7, "gate (()?");
+        e.fault(9, "gate ((h+)?");
+        e.fault(8, "gate ((()))?");
         e.fault(5, "gate -1");
         e.fault(7, "gate h+-1");
         e.text(0, "gate 0-1");

@@ -23,6 +23,7 @@ final class EdgesOfWalks {
         straightOn();
         justOneWay();
         justOneWayAtFirst();
+        minutes();
         sentRound();
         otherDirections();
         longestWalk();
@@ -292,6 +293,20 @@ final class EdgesOfWalks {
         walked(0, 0, ARRIVED, 1, 1, 1, NONE);
         e.call("shut", 0, true);
         walked(0, 0, LOST, 0, 0, 0, NONE);
+    }
+
+    private void minutes() {
+        e.terms(4, "They go by that WAY, which takes its MINUTES.");
+        e.places(3);
+        e.call("way", 0, 1, 0, 1);
+        e.call("way", 2, 1, 4, 230);
+        e.call("goal", 2, -1);
+        e.call("goal", 0, -1);
+        walked(0, 0, ARRIVED, 31, 2, 2, NONE);
+        walked(2, 1, ARRIVED, 31, 0, 2, NONE);
+        walked(2, 0, ARRIVED, 0, 2, 0, NONE);
+        row(1, SIGN, 0, 7);
+        walked(0, 0, LOST, 1, 1, 1, 0);
     }
 
     /** Who begins at a place has not come to it. */

@@ -851,8 +851,10 @@ public final class StrangerSigns {
             return wayCount++;
         }
 
+        /** None leads from a place that is not there, nor in a direction that is lacking. */
         int wayFrom(int place, int direction) {
-            return leading[place * DIRECTIONS + direction];
+            boolean isEnd = place >= 0 && place < MOST_PLACES && direction >= 0 && direction < DIRECTIONS;
+            return isEnd ? leading[place * DIRECTIONS + direction] : LACKING;
         }
 
         int waysFrom(int place) {
@@ -1253,7 +1255,7 @@ public final class StrangerSigns {
         }
 
         private void take(int direction) {
-            int number = direction == LACKING ? LACKING : roads.openWay(here, direction);
+            int number = roads.openWay(here, direction);
             if (number == LACKING) {
                 ending = LOST;
                 return;
@@ -1278,7 +1280,7 @@ public final class StrangerSigns {
                 lastFollowed = followed[here];
                 return arrows[here];
             }
-            if (came != LACKING && roads.openWay(here, came) != LACKING) {
+            if (roads.openWay(here, came) != LACKING) {
                 return came;
             }
             return onlyDirection(came == LACKING ? LACKING : opposite(came));
@@ -1442,17 +1444,17 @@ public final class StrangerSigns {
             int top = 0;
             for (int i = 0; i < steps.length; i++) {
                 int step = steps[i];
-                if (step >= LEAST_LEAF) {
+                if (step >= LEAST_LEAF && top < values.length) {
                     values[top] = step >= 0 ? step : step == -1 ? first : step == -2 ? second : step == -3 ? third : fourth;
                     top++;
-                } else if (step == -'!') {
+                } else if (step == -'!' && top >= 1) {
                     values[top - 1] = bit(values[top - 1] == 0);
-                } else {
+                } else if (top >= 2) {
                     top--;
                     values[top - 1] = joined(values[top - 1], -step, values[top]);
                 }
             }
-            return values[0];
+            return top >= 1 ? values[0] : 0;
         }
 
         private static int joined(int a, int sign, int b) {

@@ -589,8 +589,12 @@ final class EdgesOfLaws {
             e.is(0, "needs", 0, 0);
             e.is(BAD, "fewest", 0, 0);
             e.call("goal", 11, -1);
+            for (int i = 1; i < 10; i++) {
+                e.call("goal", 11, -1);
+            }
             e.is(0, "needs", 0, 0);
             e.is(0, "fewest", 0, 0);
+            e.is(0, "fewest", 9, 1);
             e.call("back");
         }
     }

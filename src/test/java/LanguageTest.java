@@ -17,7 +17,9 @@ public final class LanguageTest {
     public static void main(String[] args) throws Exception {
         face(Files.readString(Path.of("../shared/DOC.md")));
         members();
-        String code = withoutTexts(Files.readString(Path.of("src/main/java/StrangerSigns.java")));
+        String file = Files.readString(Path.of("src/main/java/StrangerSigns.java"));
+        due.holds("the file's signs are 1 to 127", file.chars().allMatch(c -> c >= 1 && c <= 127));
+        String code = withoutTexts(file);
         words(code);
         methodLengths(code);
         due.end();
